@@ -20,8 +20,12 @@ public final class PageTest {
         inkAtRanges();
         neededLimit();
         thriftiestAmount();
+        thriftiestAmountOfOne();
         disorderedPixels();
+        lastPixelCountsAndNoneBeyond();
         undoRestores();
+        undoRestoresNumbersUsedAgain();
+        undoRestoresWhatMoveChanged();
         undoDropsTheOldest();
         undoAfterUndo();
         errorsAreNoChanges();
@@ -93,6 +97,7 @@ public final class PageTest {
 
     private static void greatestSum() {
         SeparationDesk desk = paintedDesk();
+        due.is("an empty page", new SeparationDesk().greatestSum(), 0);
         due.is("greatest sum", desk.greatestSum(), 423);
         desk.set(2, 400);
         // rest 337 of 360: 159 + 112 + 65, and 30 + 33
@@ -216,7 +221,22 @@ public final class PageTest {
         // black is free up to 20, which 34 percent of 60 give
         desk.setPoint(3, 21, 255);
         due.is("black that is free at first", desk.thriftiestAmount(), 34);
+        desk.setPoint(3, 20, 0);
         due.is("no change", desk.undo(), 4);
+    }
+
+    /** Colors cost nothing up to 99 and all above, so that one percent of 100 is best. */
+    private static void thriftiestAmountOfOne() {
+        SeparationDesk desk = new SeparationDesk();
+        desk.set(1, 0);
+        desk.set(2, 1785);
+        desk.setInk(155, 155, 155);
+        desk.addRect(0);
+        for (int plate = 0; plate < 3; plate++) {
+            desk.setPoint(plate, 99, 0);
+            desk.setPoint(plate, 100, 255);
+        }
+        due.is("one percent", desk.thriftiestAmount(), 1);
     }
 
     private static void disorderedPixels() {
@@ -226,6 +246,84 @@ public final class PageTest {
             desk.set(2, limit);
             due.is("limit " + limit, desk.disorderedPixels(), 0);
         }
+    }
+
+    /** Black on the last pixel, and something dearer just right of the page and just below it. */
+    private static void lastPixelCountsAndNoneBeyond() {
+        SeparationDesk desk = new SeparationDesk();
+        desk.setSize(3, 2);
+        desk.setInk(105, 105, 105);
+        desk.setBox(2, 1, 1, 1);
+        desk.addRect(0);
+        desk.setInk(0, 0, 0);
+        desk.setBox(3, 0, 1, 3);
+        desk.addRect(0);
+        desk.setBox(0, 2, 4, 1);
+        desk.addRect(0);
+        // 150 each, so K is 55 and the others 95
+        due.is("coverage", desk.coverage(7), 340);
+        due.is("first plate", desk.plateAt(0), 0);
+        due.is("greatest sum", desk.greatestSum(), 340);
+        due.is("needed limit", desk.neededLimit(), 340);
+        due.is("inks", desk.inkCount(), 2);
+        due.is("white pixels", desk.inkAt(0, 8), 5);
+        due.is("thriftiest amount", desk.thriftiestAmount(), 100);
+        desk.set(1, 150);
+        due.is("gray that starts beyond the page's colors", desk.thriftiestAmount(), 0);
+        desk.set(2, 449);
+        due.is("limited pixels", desk.limitedPixels(), 1);
+        desk.remove(1);
+        due.is("no limited pixel", desk.limitedPixels(), 0);
+        due.is("no ink", desk.coverage(7), 0);
+        due.is("one ink", desk.inkCount(), 1);
+        due.is("needed limit of nothing", desk.neededLimit(), 0);
+    }
+
+    private static void undoRestoresNumbersUsedAgain() {
+        SeparationDesk desk = new SeparationDesk();
+        desk.setInk(11, 22, 33);
+        desk.setBox(1, 1, 1, 1);
+        desk.addRect(0);
+        desk.remove(1);
+        desk.setInk(44, 55, 66);
+        desk.setBox(2, 2, 2, 2);
+        desk.addSpot(0, 2, 77);
+        desk.undo();
+        desk.addRect(0);
+        desk.undo();
+        due.is("the first rect is back", desk.undo(), 1);
+        due.is("with its red", desk.rendered(1, 1, 0), 11);
+        due.is("its green", desk.rendered(1, 1, 1), 22);
+        due.is("its blue", desk.rendered(1, 1, 2), 33);
+        due.is("and its box", desk.touchedBy(2, 2), NOT_FOUND);
+        desk.remove(1);
+        desk.addSpot(0, 1, 88);
+        desk.remove(1);
+        desk.addSpot(0, 2, 99);
+        desk.undo();
+        desk.undo();
+        due.is("a spot's plate and tint are back", desk.rendered(2, 2, 4), 88);
+        due.is("the other plate", desk.rendered(2, 2, 5), 0);
+    }
+
+    private static void undoRestoresWhatMoveChanged() {
+        SeparationDesk desk = new SeparationDesk();
+        desk.addGroup(0, 50, 3, 2);
+        desk.addGroup(0, 40, 1, 1);
+        desk.addRect(2);
+        desk.move(2, 1);
+        due.is("20 percent", desk.rendered(4, 3, 0), 204);
+        desk.undo();
+        due.is("40 percent again", desk.rendered(1, 1, 0), 153);
+        due.is("place", desk.nodeInfo(2, 5), 1);
+        due.is("depth", desk.nodeInfo(3, 2), 2);
+        desk.remove(2);
+        desk.addGroup(0, 90, 5, 5);
+        desk.undo();
+        desk.undo();
+        desk.addGroup(0, 100, 0, 0);
+        due.is("opacity of a number used again", desk.rendered(1, 1, 0), 153);
+        due.is("offset of a number used again", desk.touchedBy(1, 1), 3);
     }
 
     private static void undoRestores() {
@@ -265,6 +363,8 @@ public final class PageTest {
         }
         for (int left = 4; left >= 0; left--) {
             due.is("undo", desk.undo(), left);
+            // g of black is 255 - 40
+            due.is("A after the undo", desk.inkOf(0, 3), 215 * (left + 2) / 100);
         }
         due.is("only five states", desk.undo(), IMPOSSIBLE);
         due.is("the state after two changes", desk.set(0, 0), 2);

@@ -22,6 +22,7 @@ public final class PixelsTest {
         limitLowersBlackThen();
         limitLowersSpotsLast();
         touchedBy();
+        touchedByWithOffset();
         due.end();
     }
 
@@ -185,7 +186,9 @@ public final class PixelsTest {
         due.is("white", desk.inkOf(16777215, 7), 0);
         due.is("black", desk.inkOf(0, 3), 107);
         due.is("color -1", desk.inkOf(-1, 0), INVALID);
-        due.is("color too great", desk.inkOf(16777216, 0), INVALID);
+        for (int plate = 0; plate <= 7; plate++) {
+            due.is("color too great", desk.inkOf(16777216, plate), INVALID);
+        }
         due.is("greatest color", desk.inkOf(MOST, 0), INVALID);
         due.is("plate -1", desk.inkOf(0, -1), INVALID);
         due.is("plate 8", desk.inkOf(0, 8), INVALID);
@@ -195,6 +198,7 @@ public final class PixelsTest {
         SeparationDesk desk = new SeparationDesk();
         desk.addSpot(0, 1, 255);
         desk.setPoint(5, 0, 12);
+        due.is("the page's tint", desk.rendered(0, 0, 4), 255);
         due.is("the page's tints don't count", desk.inkOf(16777215, 5), 12);
         due.is("sum", desk.inkOf(16777215, 7), 12);
     }
@@ -245,6 +249,15 @@ public final class PixelsTest {
         inks(desk, "spots", new int[] {0, 0, 0, 0, 4, 0, 5});
         desk.set(2, 0);
         inks(desk, "no ink", new int[] {0, 0, 0, 0, 0, 0, 0});
+    }
+
+    private static void touchedByWithOffset() {
+        SeparationDesk desk = new SeparationDesk();
+        desk.addGroup(0, 100, 2, 3);
+        desk.addRect(1);
+        due.is("shifted", desk.touchedBy(2, 3), 2);
+        due.is("not shifted", desk.touchedBy(0, 0), NOT_FOUND);
+        due.is("a group alone touches nothing", desk.touchedBy(3, 3), NOT_FOUND);
     }
 
     private static void touchedBy() {
