@@ -738,11 +738,9 @@ public final class SeparationDesk {
         }
 
         void append(int number, int kind, int parent) {
-            if (count < NODES) {
-                nodeAt(number).kind = kind;
-                carried[0] = number;
-                putIn(1, parent);
-            }
+            nodeAt(number).kind = kind;
+            carried[0] = number;
+            putIn(1, parent);
         }
 
         int cutAndFree(int number) {
@@ -789,6 +787,9 @@ public final class SeparationDesk {
 
         /** Puts the carried nodes back into the order, the first of them as the last child of parent. */
         void putIn(int length, int parent) {
+            if (length < 1 || count + length > NODES) {
+                return;
+            }
             int start = endOf(parent);
             for (int i = count - 1; i >= start; i--) {
                 order[i + length] = order[i];

@@ -332,12 +332,17 @@ public final class PageTest {
         desk.setSize(2, 4);
         due.is("size undone", desk.undo(), 1);
         due.is("the size", desk.rendered(7, 5, 0), 255);
-        desk.set(0, 7);
-        desk.undo();
-        due.is("A", desk.set(0, 8), 50);
-        desk.setKnockout(2, 0);
-        desk.undo();
-        due.is("knockout", desk.setKnockout(2, 1), 1);
+        int[] initial = {50, 40, 700};
+        for (int what = 0; what < 3; what++) {
+            desk.set(what, 7);
+            desk.undo();
+            due.is("setting " + what, desk.set(what, initial[what]), initial[what]);
+        }
+        for (int plate = 0; plate < 3; plate++) {
+            desk.setKnockout(plate, 0);
+            desk.undo();
+            due.is("knockout " + plate, desk.setKnockout(plate, 1), 1);
+        }
         desk.removePoint(0, 9);
         desk.setPoint(6, 10, 200);
         desk.removePoint(6, 10);
@@ -345,8 +350,6 @@ public final class PageTest {
         due.is("the point", desk.curve(6, 10), 200);
         desk.undo();
         due.is("the straight curve", desk.curve(6, 10), 10);
-        desk.undo();
-        desk.undo();
         due.is("the group is left", desk.nodeCount(), 2);
         desk.addRect(1);
         desk.move(1, 0);

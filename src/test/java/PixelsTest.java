@@ -94,6 +94,8 @@ public final class PixelsTest {
         parts(desk, "a rect lowers all tints", 0, 0, new int[] {158, 189, 220, 0, 12, 63});
         desk.addSpot(0, 0, 7);
         parts(desk, "a full spot", 0, 0, new int[] {255, 255, 255, 7, 0, 0});
+        desk.addSpot(0, 2, 8);
+        parts(desk, "over the first plate", 0, 0, new int[] {255, 255, 255, 0, 0, 8});
     }
 
     private static void renderedKnockouts() {
@@ -183,6 +185,8 @@ public final class PixelsTest {
         for (int plate = 0; plate <= 7; plate++) {
             due.is("inkOf, plate " + plate, desk.inkOf(color, plate), want[plate]);
         }
+        due.is("red is brightest", desk.inkOf(65536 * 155 + 256 * 105 + 55, 3), 30);
+        due.is("green is brightest", desk.inkOf(65536 * 105 + 256 * 155 + 55, 3), 30);
         due.is("white", desk.inkOf(16777215, 7), 0);
         due.is("black", desk.inkOf(0, 3), 107);
         due.is("color -1", desk.inkOf(-1, 0), INVALID);
