@@ -11,6 +11,10 @@ final class Due {
         }
     }
 
+    void holds(String what, boolean held) {
+        is(what + " holds", held ? 1 : 0, 1);
+    }
+
     void end() {
         System.out.println(asked + " answers, " + wrong + " wrong");
         if (wrong != 0 || asked == 0) {

@@ -60,8 +60,10 @@ public final class NodesTest {
             due.is("initial knockout " + plate, desk.setKnockout(plate, 0), 1);
         }
         for (int plate = 0; plate < 7; plate++) {
+            // a desk for each plate, since nothing is promised after 512 calls
+            SeparationDesk fresh = new SeparationDesk();
             for (int input = 0; input < 256; input++) {
-                due.is("initial curve", desk.curve(plate, input), input);
+                due.is("initial curve", fresh.curve(plate, input), input);
             }
         }
     }
