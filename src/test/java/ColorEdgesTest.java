@@ -18,6 +18,8 @@ public final class ColorEdgesTest {
         firstDifferentPlateDecides();
         firstPlateDecidesAmongSeveral();
         inkBehindTheLast();
+        nothingBesideThePageCounts();
+        everyPixelOfThePageCounts();
         coverageAtItsEnds();
         plateAtOfEmptyPage();
         plateAtOfEqualPlates();
@@ -251,6 +253,51 @@ public final class ColorEdgesTest {
         due.is("white is a fourth", desk.inkAt(0, 8), 141);
         due.is("the last of four", desk.inkAt(3, 7), 3);
         due.is("place 144", desk.inkAt(144, 0), NOT_FOUND);
+    }
+
+    /** "over all pixels", "of a pixel", "the number of pixels": those of the page alone, on each of its four sides. */
+    private static void nothingBesideThePageCounts() {
+        int[][] boxes = {{-1, 0, 1, 3}, {0, -1, 4, 1}, {4, 0, 1, 3}, {0, 3, 4, 1}, {-1, -1, 1, 1}, {4, 3, 1, 1}};
+        for (int[] b : boxes) {
+            SeparationDesk desk = new SeparationDesk();
+            desk.setSize(4, 3);
+            desk.set(L, 500);
+            desk.setBox(b[0], b[1], b[2], b[3]);
+            desk.addRect(0);
+            String beside = "beside the page at " + b[0] + ", " + b[1] + ": ";
+            due.is(beside + "coverage", desk.coverage(7), 0);
+            due.is(beside + "first plate", desk.plateAt(0), 0);
+            due.is(beside + "greatest sum", desk.greatestSum(), 0);
+            due.is(beside + "limited pixels", desk.limitedPixels(), 0);
+            due.is(beside + "inks", desk.inkCount(), 1);
+            due.is(beside + "pixels of the ink", desk.inkAt(0, 8), 12);
+            due.is(beside + "needed limit", desk.neededLimit(), 0);
+            due.is(beside + "thriftiest amount", desk.thriftiestAmount(), 0);
+            due.is(beside + "disordered pixels", desk.disorderedPixels(), 0);
+        }
+    }
+
+    /** The first and the last pixel, the first and the last row and column: each alone counts. */
+    private static void everyPixelOfThePageCounts() {
+        for (int pixel = 0; pixel < 12; pixel++) {
+            SeparationDesk desk = new SeparationDesk();
+            desk.setSize(4, 3);
+            desk.set(L, 500);
+            desk.setBox(pixel % 4, pixel / 4, 1, 1);
+            desk.addRect(0);
+            // black: K 107 and three times 148, of which the limit leaves three times 131
+            due.is("coverage", desk.coverage(7), 500);
+            due.is("K", desk.coverage(3), 107);
+            due.is("first plate", desk.plateAt(3), 3);
+            due.is("greatest sum", desk.greatestSum(), 500);
+            due.is("limited pixels", desk.limitedPixels(), 1);
+            due.is("inks", desk.inkCount(), 2);
+            due.is("its ink", desk.inkAt(1, 0), 131);
+            due.is("its pixel", desk.inkAt(1, 8), 1);
+            due.is("needed limit", desk.neededLimit(), 551);
+            desk.set(L, 700);
+            due.is("thriftiest amount", desk.thriftiestAmount(), 100);
+        }
     }
 
     private static SeparationDesk deskOfFullPlates() {
